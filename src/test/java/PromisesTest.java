@@ -335,6 +335,15 @@ public final class PromisesTest {
         x.good(1, true);
         c.due("isGood 1, made good", x.isGood(1), 1);
         c.due("isGood 0, still not", x.isGood(0), 0);
+        // Kind 1 is that of the word 0, which ends in state 5; state 1 is never reached.
+        LearnDesk y = new LearnDesk();
+        y.arrow(0, 0, 5);
+        y.good(5, true);
+        c.due("isGood 1, of state 5", y.isGood(1), 1);
+        y.good(0, true);
+        y.good(1, true);
+        y.good(5, false);
+        c.due("isGood 1, of state 5, not state 1", y.isGood(1), 0);
     }
 
     private static void promise10Difference() {
