@@ -16,6 +16,23 @@ final class Checks {
         due(what, holds ? 1 : 0, 1);
     }
 
+    /** One test of several: it stands by itself, so that what it throws doesn't hide the others. */
+    void part(String name, Runnable test) {
+        int rightBefore = right;
+        int wrongBefore = wrong;
+        try {
+            test.run();
+        } catch (RuntimeException | StackOverflowError thrown) {
+            wrong++;
+            System.out.println(name + " threw " + thrown);
+        }
+        if (right == rightBefore && wrong == wrongBefore) {
+            wrong++;
+            System.out.println(name + " looked at nothing");
+        }
+        System.out.println((wrong == wrongBefore ? "  ok      " : "  FAILED  ") + name);
+    }
+
     void end(String test) {
         System.out.println(test + ": " + right + " answers as due, " + wrong + " not");
         if (wrong != 0 || right == 0) {
