@@ -25,6 +25,9 @@ public final class FaceTest {
     public static void main(String[] args) throws ReflectiveOperationException {
         int ofClass = LearnDesk.class.getModifiers();
         c.holds("the class is public and final", ofClass == (Modifier.PUBLIC | Modifier.FINAL));
+        c.holds("the class extends nothing", LearnDesk.class.getSuperclass() == Object.class);
+        c.due("interfaces", LearnDesk.class.getInterfaces().length, 0);
+        c.due("type parameters", LearnDesk.class.getTypeParameters().length, 0);
         c.due("constructors", LearnDesk.class.getDeclaredConstructors().length, 1);
         c.holds("the constructor is public", Modifier.isPublic(LearnDesk.class.getDeclaredConstructor().getModifiers()));
         c.due("nested classes", LearnDesk.class.getDeclaredClasses().length, 0);
